@@ -34,7 +34,7 @@ public final class PromiseTests {
         }
     }
 
-    /** The five points and three wings at which PARTED is stronger than PLAIN: a star of three arms of two. */
+    /** Three arms of two points at one head, at which PARTED is stronger than PLAIN. */
     private static ZeroForcer spider() {
         return made("n7;P0,2;l0,3;P3,4;l0,5;P5,6");
     }
@@ -56,7 +56,10 @@ public final class PromiseTests {
         is("undo", x.undo(), STATE);
         is("redo", x.redo(), STATE);
         is("trace", x.trace(0), NOT);
-        is("the constants", ZeroForcer.BAD + 10 * ZeroForcer.NOT + 100 * ZeroForcer.FULL + 1000 * ZeroForcer.STATE, -5321);
+        is("BAD", ZeroForcer.BAD, -1);
+        is("NOT", ZeroForcer.NOT, -2);
+        is("FULL", ZeroForcer.FULL, -3);
+        is("STATE", ZeroForcer.STATE, -5);
         is("VOID", ZeroForcer.VOID, Integer.MIN_VALUE);
     }
 
@@ -274,7 +277,6 @@ public final class PromiseTests {
         is("many(5)", x.many(5), BAD);
         is("many(-1)", x.many(-1), BAD);
         at = "14 throttle";
-        // of a path of nine: three in one stroke and what they reach
         ZeroForcer y = made("n9;P0,8");
         is("the sum of the two ends of a path of four", x.throttle(0), 3);
         is("the set", x.throttle(1), 6);
@@ -447,7 +449,7 @@ public final class PromiseTests {
         is("place -1 of no row", x.kernel(9, -1), BAD);
         x.prime(31);
         is("by 31", x.kernel(0, 0), 30);
-        // 2 * 7 is 3 by 11, so that the row of 3 and 7 is one with that of 2 and 1 (3 * 2 ... by 5)
+        // 2 and 5 above 5 and 7
         ZeroForcer y = made("n2;l0,1");
         y.table(0, 0, 2);
         y.table(0, 1, 5);
@@ -524,6 +526,8 @@ public final class PromiseTests {
         tell(x, 0, -1);
         is("no set", x.fits(0, 1, 0), 0);
         is("not so many places", x.fits(0, 2, 0), -13);
+        tell(x, 0);
+        is("no place, but not missing", x.fits(0, 1, 0), -13);
         is("m 0", x.fits(0, 0, 0), BAD);
         is("m 41", x.fits(0, 41, 0), BAD);
         is("m 40", x.fits(0, 40, 0), -13);
@@ -703,6 +707,8 @@ public final class PromiseTests {
         is("put(0, -1, 1)", x.put(0, -1, 1), -13);
         is("put(1, 0, 1)", x.put(1, 0, 1), -11);
         is("put(1, 40, 1)", x.put(1, 40, 1), -11);
+        x.row(2, 0);
+        is("no place, but not missing", x.put(2, 0, 1), -13);
         is("put(3, 0, 1)", x.put(3, 0, 1), BAD);
         is("put(-1, 0, 1)", x.put(-1, 0, 1), BAD);
         at = "40 get";

@@ -21,7 +21,6 @@ public final class ZeroForcer {
     /** What a CHANGE can be of; a LINE is nothing but a number of THE TABLE that is not 0. */
     private static final int OF_NUMBER = 0, OF_KIND = 1, OF_COST = 2, OF_RULE = 3, OF_PRIME = 4;
 
-    private static final int[] ABOVE = {-1, POINT, LEAF, POINT, HUB};
     private static final int[] PRIMES = {11, 13, 17, 19, 23, 29, 31};
 
     private final Network net;
@@ -422,7 +421,14 @@ public final class ZeroForcer {
 
     public int read() {
         int fault = tape.findFault();
-        int answer = fault < 0 ? doActs() : FAULT_BASE - fault;
+        int answer = fault < 0 ? tape.acts : FAULT_BASE - fault;
+        tape.at = 0;
+        for (int done = 0; fault < 0 && done < tape.acts; done++) {
+            if (doAct() < 0) {
+                answer = REFUSED_BASE - done;
+                break;
+            }
+        }
         tape.size = 0;
         return answer;
     }
@@ -503,7 +509,7 @@ public final class ZeroForcer {
         if (!net.hasPoint(point) || k < 0 || k >= KINDS) {
             return BAD;
         }
-        return isUnder(net.kinds[point], k) ? net.costs[point] : STATE;
+        return Bodies.isUnder(net.kinds[point], k) ? net.costs[point] : STATE;
     }
 
     // ---- the image, and what is counted
@@ -555,18 +561,6 @@ public final class ZeroForcer {
             if (known == p) {
                 return true;
             }
-        }
-        return false;
-    }
-
-    /** Whether a KIND is another one, or stands somewhere under it. */
-    private static boolean isUnder(int kind, int other) {
-        int at = kind;
-        for (int step = 0; step < KINDS && at >= 0 && at < KINDS; step++) {
-            if (at == other) {
-                return true;
-            }
-            at = ABOVE[at];
         }
         return false;
     }
@@ -627,26 +621,11 @@ public final class ZeroForcer {
         return NOT;
     }
 
-    private int doActs() {
-        tape.at = 0;
-        // an ACT takes two bytes at least, so no text has more of them than bytes
-        for (int done = 0; done < MOST_BYTES; done++) {
-            if (tape.at >= tape.size) {
-                return done;
-            }
-            if (doAct() < 0) {
-                return REFUSED_BASE - done;
-            }
-            tape.at++;
-        }
-        return MOST_BYTES;
-    }
-
     /** Does the ACT at which the tape stands; what it answers is below 0 if it was refused. */
     private int doAct() {
         int letter = tape.nextByte();
         int a = tape.nextNumber();
-        int b = Tape.numbersOf(letter) == 2 ? tape.nextSecond() : 0;
+        int b = Tape.numbersOf(letter) == 2 ? tape.nextNumber() : 0;
         switch (letter) {
             case 'n': return points(a);
             case 'l': return line(a, b, 1);
@@ -660,15 +639,15 @@ public final class ZeroForcer {
         }
     }
 
-    /** LINES from a up to b, each to the next one; b stands shortest or more behind a; by a shortest of 2 they close. */
-    private int tellPath(int a, int b, int shortest) {
-        if (!net.hasPoint(a) || !net.hasPoint(b) || b < a + shortest) {
+    /** LINES from a up to b, each to the next one; b stands this far behind a at least. By 2, the ring closes. */
+    private int tellPath(int a, int b, int leastStep) {
+        if (!net.hasPoint(a) || !net.hasPoint(b) || b < a + leastStep) {
             return BAD;
         }
         for (int i = a; i < b; i++) {
             tellLine(i, i + 1, 1);
         }
-        if (shortest == 2) {
+        if (leastStep == 2) {
             tellLine(b, a, 1);
         }
         return 1;
@@ -924,7 +903,7 @@ public final class ZeroForcer {
         }
     }
 
-    /** The ROUNDS by RULE, on a copy of THE NETWORK from which a point may be left out, or in which a line is turned. */
+    /** The ROUNDS by RULE, on a copy of the lines from which a point may be left out, or in which one is turned. */
     private static final class Forcing {
         static final int NEVER = -1;
 
@@ -1036,7 +1015,7 @@ public final class ZeroForcer {
             return forced;
         }
 
-        /** Where a set comes to rest. A first ROUND by WIDE that changes nothing leaves nobody who could force later. */
+        /** Where a set comes to rest: a first ROUND by WIDE that changes nothing leaves nobody to force later. */
         int lastOf(int set) {
             int coloured = set;
             for (int i = 0; i <= MOST_POINTS; i++) {
@@ -1464,6 +1443,8 @@ public final class ZeroForcer {
     private static final class Tape {
         int size;
         int at;
+        /** How many ACTS were passed ahead of a FAULT, or are in the whole text. */
+        int acts;
         final int[] bytes = new int[MOST_BYTES];
 
         boolean append(int letter) {
@@ -1506,11 +1487,13 @@ public final class ZeroForcer {
         /** The first byte with which no text goes on, or the length if it ends too early; -1 if it is a text. */
         int findFault() {
             at = 0;
-            for (int acts = 0; acts <= MOST_BYTES; acts++) {
+            acts = 0;
+            for (int turn = 0; turn <= MOST_BYTES; turn++) {
                 if (!passAct()) {
                     return at;
                 }
-                if (at == size) {
+                acts++;
+                if (at >= size) {
                     return -1;
                 }
                 if (byteAt(at) != ';') {
@@ -1555,23 +1538,21 @@ public final class ZeroForcer {
             return found;
         }
 
+        /** A number of one or two figures, and the comma or ; behind it. */
         int nextNumber() {
             int number = 0;
             for (int figure = 0; figure < 2 && hasFigure(at); figure++) {
                 number = 10 * number + nextByte() - '0';
             }
-            return number;
-        }
-
-        /** The number behind a comma. */
-        int nextSecond() {
             at++;
-            return nextNumber();
+            return number;
         }
     }
 
     /** The BODIES of one POINT's ACT, and the numbers of those that ran. */
     private static final class Bodies {
+        private static final int[] ABOVE = {-1, POINT, LEAF, POINT, HUB};
+
         int kind;
         int number;
         int cost;
@@ -1585,6 +1566,18 @@ public final class ZeroForcer {
             size = 0;
         }
 
+        /** Whether a KIND is another one, or stands somewhere under it. */
+        static boolean isUnder(int kind, int other) {
+            int at = kind;
+            for (int step = 0; step < KINDS && at >= 0 && at < KINDS; step++) {
+                if (at == other) {
+                    return true;
+                }
+                at = ABOVE[at];
+            }
+            return false;
+        }
+
         private void note(int body) {
             if (size < MOST_TRACE) {
                 ran[size] = body;
@@ -1593,23 +1586,27 @@ public final class ZeroForcer {
         }
 
         int asks(int x) {
-            return isUnder(kind, LEAF) ? leafAsks(x) : pointAsks(x);
+            if (isUnder(kind, LEAF)) {
+                note(20);
+                return -pointAsks(x);
+            }
+            return pointAsks(x);
         }
 
         int says(int x) {
-            return isUnder(kind, STAR) ? starSays(x) : pointSays(x);
+            if (isUnder(kind, STAR)) {
+                note(40);
+                return pointSays(x) ^ 5;
+            }
+            return pointSays(x);
         }
 
         int tells(int x) {
             if (isUnder(kind, RIM)) {
-                return rimTells(x);
+                note(50);
+                return hubTells(x - 1) + cost;
             }
             return isUnder(kind, HUB) ? hubTells(x) : countedTells(x);
-        }
-
-        private int countedTells(int x) {
-            note(1);
-            return x + 2;
         }
 
         private int pointAsks(int x) {
@@ -1622,24 +1619,14 @@ public final class ZeroForcer {
             return asks(x) * 2 + tells(1);
         }
 
-        private int leafAsks(int x) {
-            note(20);
-            return -pointAsks(x);
-        }
-
         private int hubTells(int x) {
             note(30);
             return countedTells(x) * 3;
         }
 
-        private int starSays(int x) {
-            note(40);
-            return pointSays(x) ^ 5;
-        }
-
-        private int rimTells(int x) {
-            note(50);
-            return hubTells(x - 1) + cost;
+        private int countedTells(int x) {
+            note(1);
+            return x + 2;
         }
     }
 }
